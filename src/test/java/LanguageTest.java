@@ -1,0 +1,178 @@
+import java.lang.reflect.Constructor;
+import java.lang.reflect.Executable;
+import java.lang.reflect.Field;
+import java.lang.reflect.Method;
+import java.lang.reflect.Modifier;
+import java.nio.file.Files;
+import java.nio.file.Path;
+import java.util.ArrayList;
+import java.util.Arrays;
+import java.util.HashSet;
+import java.util.List;
+import java.util.Set;
+import java.util.TreeSet;
+import java.util.regex.Matcher;
+import java.util.regex.Pattern;
+
+/** The face of the document and those rules of LANGUAGE.md that can be seen without running the class. */
+public final class LanguageTest {
+    private static final String[] FACE = {
+        "int defender(int,int)", "int defenders(int,int,int)", "int mend(int,int,int)", "int of(int,int)", "int feed(int)",
+        "int law()", "int does(int,int,int)", "int raid(int,int)", "int where(int,int,int)", "int best(int,int)",
+        "int touch(int,int)", "int needs(int)", "int spared(int)", "int stand(int,int,int)", "int mightHe(int)", "int line(int)",
+        "int left(int,int,int)", "int third(int,int,int,int)", "int judge(int,int)", "int bench(int,int,int,int)",
+        "int drawn(int,int,int)", "int go(int)", "int allIn()", "int led(int)", "int image()", "int back()", "int undo()",
+        "int redo()", "int body(int)", "int act(int,int,int)", "int trace(int)", "int keep(int,int)", "int row(int,int,int)",
+        "int put(int,int,long)", "long element(int,int)", "int shift(int,int,int,int,int)", "int taken(int,int)", "int count(int)"};
+    private static final String[] FORBIDDEN = {"throw", "throws", "try", "catch", "finally", "synchronized", "assert", "import static",
+        "->", "::", "float", "double", "System.out", "Exact", "MAX_VALUE", "equals", "hashCode", "toString", "var ", "instanceof"};
+    private static int wrong = 0;
+
+    private static void fault(String text) {
+        wrong++;
+        System.out.println(text);
+    }
+
+    public static void main(String[] args) throws Exception {
+        Path root = Path.of(args.length > 0 ? args[0] : ".");
+        String source = Files.readString(root.resolve("src/main/java/OnOneBreath.java"));
+        lookAtFace();
+        lookAtClasses();
+        lookAtWords(source);
+        lookAtLengths(source);
+        System.out.println(wrong + " faults of the language");
+        if (wrong != 0) {
+            System.exit(1);
+        }
+    }
+
+    private static String told(Method m) {
+        List<String> types = new ArrayList<>();
+        for (Class<?> type : m.getParameterTypes()) {
+            types.add(type.getName());
+        }
+        return m.getReturnType().getName() + " " + m.getName() + "(" + String.join(",", types) + ")";
+    }
+
+    private static void lookAtFace() {
+        Class<?> c = OnOneBreath.class;
+        Set<String> face = new TreeSet<>();
+        for (Method m : c.getDeclaredMethods()) {
+            if (Modifier.isPublic(m.getModifiers()) && !Modifier.isStatic(m.getModifiers())) {
+                face.add(told(m));
+            } else if (!Modifier.isPrivate(m.getModifiers()) && !m.isSynthetic()) {
+                fault("not of the face: " + m);
+            }
+        }
+        if (!face.equals(new TreeSet<>(Arrays.asList(FACE)))) {
+            fault("another face: " + face);
+        }
+        Set<String> constants = new TreeSet<>();
+        for (Field f : c.getDeclaredFields()) {
+            if (!Modifier.isPrivate(f.getModifiers())) {
+                constants.add(f.getName());
+            }
+        }
+        if (!constants.equals(new TreeSet<>(List.of("BAD", "NOT", "FULL", "STATE", "VOID")))) {
+            fault("other constants: " + constants);
+        }
+        if (!Modifier.isFinal(c.getModifiers()) || !Modifier.isPublic(c.getModifiers()) || c.getPackageName().length() > 0) {
+            fault("not public and final, or in a package");
+        }
+        if (c.getDeclaredConstructors().length != 1 || c.getConstructors().length != 1) {
+            fault("other constructors");
+        }
+    }
+
+    private static void lookAtClasses() {
+        List<Class<?>> all = new ArrayList<>(List.of(OnOneBreath.class.getDeclaredClasses()));
+        Set<String> names = new HashSet<>();
+        for (Method m : OnOneBreath.class.getMethods()) {
+            names.add(m.getName());
+        }
+        for (Class<?> c : all) {
+            if (!Modifier.isStatic(c.getModifiers()) || c.getDeclaredClasses().length > 0) {
+                fault("not static, or with classes inside: " + c);
+            }
+        }
+        all.add(OnOneBreath.class);
+        if (all.size() > 12) {
+            fault("too many classes: " + all.size());
+        }
+        for (Class<?> c : all) {
+            lookAtMembers(c, names);
+        }
+    }
+
+    private static void lookAtMembers(Class<?> c, Set<String> names) {
+        List<Executable> all = new ArrayList<>(List.of(c.getDeclaredMethods()));
+        for (Constructor<?> made : c.getDeclaredConstructors()) {
+            all.add(made);
+        }
+        for (Executable e : all) {
+            if (e.getParameterCount() > 7) {
+                fault("more than seven parameters: " + e);
+            }
+            if (e instanceof Method && names.contains(e.getName()) && !(c == OnOneBreath.class && Modifier.isPublic(e.getModifiers()))) {
+                fault("the name of a public method: " + e);
+            }
+        }
+        int fields = 0;
+        for (Field f : c.getDeclaredFields()) {
+            boolean fixed = Modifier.isStatic(f.getModifiers());
+            fields += fixed ? 0 : 1;
+            if (fixed && !Modifier.isFinal(f.getModifiers())) {
+                fault("static, not final: " + f);
+            }
+        }
+        if (fields > 20) {
+            fault("more than twenty fields: " + c);
+        }
+    }
+
+    private static void lookAtWords(String source) {
+        String code = source.replaceAll("(?s)/\\*.*?\\*/", "").replaceAll("//[^\n]*", "");
+        for (String word : FORBIDDEN) {
+            String edge = Character.isLetter(word.charAt(0)) ? "\\b" : "";
+            if (Pattern.compile(edge + Pattern.quote(word)).matcher(code).find()) {
+                fault("forbidden: " + word);
+            }
+        }
+        Matcher imports = Pattern.compile("(?m)^import (.*);$").matcher(code);
+        while (imports.find()) {
+            if (!imports.group(1).equals("java.util.Arrays")) {
+                fault("imported: " + imports.group(1));
+            }
+        }
+        Matcher calls = Pattern.compile("\\b(Arrays|System|Math|Integer|Long)\\.(\\w+)").matcher(code);
+        Set<String> free = Set.of("Arrays.fill", "System.arraycopy", "Math.max", "Math.min", "Math.abs", "Integer.bitCount",
+                "Long.MIN_VALUE");
+        while (calls.find()) {
+            if (!free.contains(calls.group())) {
+                fault("of the library: " + calls.group());
+            }
+        }
+        for (int i = 0; i < source.length(); i++) {
+            if (source.charAt(i) > 126) {
+                fault("a sign above 126 at " + i);
+            }
+        }
+    }
+
+    /** A method's lines are those between its head and the brace that stands below it. */
+    private static void lookAtLengths(String source) {
+        String[] lines = source.split("\n");
+        for (int i = 0; i < lines.length; i++) {
+            Matcher head = Pattern.compile("^( {4}| {8})(?!\\s)(?!.*\\bclass\\b)[\\w\\[\\] ]+\\([^;]*\\) \\{$").matcher(lines[i]);
+            if (head.find()) {
+                int end = i;
+                while (end < lines.length - 1 && !lines[end].equals(head.group(1) + "}")) {
+                    end++;
+                }
+                if (end - i > 60) {
+                    fault("more than sixty lines: " + lines[i].trim());
+                }
+            }
+        }
+    }
+}
