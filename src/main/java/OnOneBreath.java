@@ -1025,13 +1025,14 @@ public final class OnOneBreath {
                 int step = steps[at];
                 int detail = details[at];
                 at++;
-                if (top < operandsOf(step) || top >= LONGEST) {
+                if (step <= NAME) {
+                    if (top >= LONGEST) {
+                        return 0;
+                    }
+                    stack[top] = step == NUMBER ? detail : names[detail];
+                    top++;
+                } else if (top < 1) {
                     return 0;
-                }
-                if (step == NUMBER) {
-                    stack[top++] = detail;
-                } else if (step == NAME) {
-                    stack[top++] = names[detail];
                 } else if (step == GIVE) {
                     return stack[top - 1];
                 } else if (step == UNLESS_SKIP) {
@@ -1042,19 +1043,14 @@ public final class OnOneBreath {
                     stack[top - 1] = stack[top - 1] == 0 ? 1 : 0;
                 } else if (step == MINUS) {
                     stack[top - 1] = -stack[top - 1];
+                } else if (top < 2) {
+                    return 0;
                 } else {
                     top--;
                     stack[top - 1] = joined(step - FIRST_JOINER, stack[top - 1], stack[top]);
                 }
             }
             return 0;
-        }
-
-        private static int operandsOf(int step) {
-            if (step <= NAME) {
-                return 0;
-            }
-            return step < FIRST_JOINER ? 1 : 2;
         }
 
         /** By the places in LawReader.JOINERS. */

@@ -545,6 +545,11 @@ public final class PromisesTest {
         due(11, "round it", y.best(3, -1), -1);
         y.allIn();
         due(11, "again", y.best(3, -1), -1);
+        due(11, "five: as deep as BAULK beside it", y.best(5, -1), 0);
+        int[] five = {3, 3, 1, 1, 1};
+        for (int k = 0; k < 5; k++) {
+            due(11, "five, move " + k, y.best(5, k), five[k]);
+        }
         due(11, "no change", y.count(3), 1);
     }
 
@@ -580,6 +585,11 @@ public final class PromisesTest {
         x.mend(0, 4, 3);
         due(12, "BREATH 3", x.touch(1, -1), NOT);
         x.mend(0, 4, 20);
+        x.mend(2, 0, 4);
+        due(12, "five seconds", x.touch(2, -1), 5);
+        due(12, "five seconds, the last", x.touch(2, 4), 1);
+        x.mend(2, 0, 3);
+        due(12, "six seconds", x.touch(2, -1), NOT);
         due(12, "mended back", x.touch(1, 2), 4);
         // Those who hold at once: 0 is STRONG 1 of MIGHT 0.
         lawOf(x, "3");
@@ -689,6 +699,9 @@ public final class PromisesTest {
         due(15, "out of his way in COLUMN 0", x.stand(0, 0, 0), 12);
         x.mend(0, 5, 3);
         due(15, "out of his REACH", x.stand(0, 0, 0), 14);
+        bytes(x, 0, 1, 1, 1, 1, 4, 4, 4, 4, 4, 4, 4, 4, 2, 2, 2, 2);
+        due(15, "ROW 8 alone is out of it", x.stand(0, 0, 0), 80);
+        due(15, "ROW 8 alone is out of it, that", x.stand(0, 0, 1), 0);
     }
 
     private static void mightHe() {
@@ -770,6 +783,8 @@ public final class PromisesTest {
         // DEEP: (3 * 1000000 + 3 * 416666 + 6 * 916666) / 12 = 812499; SHORT: (1000000 + 416666 + 10 * 916666) / 12 = 881943.
         due(18, "ahead by 1", x.left(1, 1, 0), 881943);
         due(18, "ahead by 1: SHORT", x.left(1, 1, 1), 0);
+        due(18, "a tie: DEEP", x.left(1, 0, 1), 1);
+        due(18, "n 0 behind it", x.left(0, 0, 1), 0);
         // Behind by 1: DEEP: 3 * 416666 / 12 = 104166; SHORT: 34722.
         due(18, "behind by 1", x.left(1, -1, 0), 104166);
         due(18, "behind by 1: DEEP", x.left(1, -1, 1), 1);
@@ -902,6 +917,7 @@ public final class PromisesTest {
             due(22, "bad", x.drawn(b[0], b[1], b[2]), BAD);
         }
         due(22, "nobody", x.drawn(5, 50, 0), 0);
+        due(22, "one raid", x.drawn(5, 1, 0), 0);
         // All hold with 9 over MIGHT 0 wherever he steps in ROW 1: the first step deeper beside one is CAUGHT.
         lawOf(x, "3");
         for (int i = 0; i < 7; i++) {
@@ -1133,6 +1149,51 @@ public final class PromisesTest {
         }
         due(29, "forty done", x.count(3), 40);
         due(29, "the last one", x.of(0, 6), 1);
+        manyChanges();
+    }
+
+    /** 44 changes of all sorts: the first four cannot be UNDONE any more. */
+    private static void manyChanges() {
+        OnOneBreath x = new OnOneBreath();
+        for (int i = 0; i < 4; i++) {
+            x.defender(11, 0);
+        }
+        for (int round = 0; round < 11; round++) {
+            x.mend(round % 4, 0, 2 + (round + 1) % 3);
+            x.mend(round % 4, 2, 1 + round % 8);
+            x.mend(0, 4, 30 + round);
+            x.mend(0, 9 + round % 5, 12 - round % 2);
+        }
+        due(28, "changes of all sorts", x.count(3), 40);
+        int[] before = state(x);
+        for (int i = 0; i < 40; i++) {
+            x.undo();
+        }
+        // What the first round told stands: defender 0 in COLUMN 3, STRONG 1, BREATH 30, DEEP 12.
+        int[] first = {3, 1, 1, 1, 1, 1, 0, 1, 1, 1, 0, 1, 1, 1, 0, 1, 30, 1, 9, 4, 3, 12, 3, 1, 1, 2};
+        int[] undone = state(x);
+        for (int i = 0; i < first.length; i++) {
+            due(28, "undone, number " + i, undone[i], first[i]);
+        }
+        for (int i = 0; i < 40; i++) {
+            x.redo();
+        }
+        int[] after = state(x);
+        for (int i = 0; i < before.length; i++) {
+            due(29, "done again, number " + i, after[i], before[i]);
+        }
+    }
+
+    /** All numbers of mend(): of four DEFENDERS, then the others. */
+    private static int[] state(OnOneBreath x) {
+        int[] all = new int[26];
+        for (int i = 0; i < 16; i++) {
+            all[i] = x.of(i / 4, i % 4);
+        }
+        for (int what = 4; what < 14; what++) {
+            all[12 + what] = x.of(0, what);
+        }
+        return all;
     }
 
     private static void body() {
