@@ -32,10 +32,9 @@ public final class OnOneBreath {
     private final Changes changes = new Changes();
     private final Bodies bodies = new Bodies();
     private final Shelf[] shelves = new Shelf[SHELVES];
-    private final LawReader reader = new LawReader();
     private final int[] tape = new int[LONGEST_TAPE];
+    private final LawReader reader = new LawReader(tape);
     private int tapeLength;
-    private Law draft = new Law();
 
     public OnOneBreath() {
         for (int i = 0; i < SHELVES; i++) {
@@ -92,12 +91,12 @@ public final class OnOneBreath {
     }
 
     public int law() {
-        int fault = reader.read(tape, tapeLength, draft);
+        int fault = reader.read(tapeLength);
         tapeLength = 0;
         if (fault >= 0) {
             return -100 - fault;
         }
-        draft = half.follow(draft);
+        reader.draft = half.follow(reader.draft);
         return 1;
     }
 
@@ -738,14 +737,11 @@ public final class OnOneBreath {
             return next;
         }
 
-        /** Moves back to the end. Its end and points hold; its seconds do not, where nothing can save him. */
-        void comeBack(Half half) {
+        /** LOST, if moves back save him no more: points hold then, seconds do not. */
+        void giveUpIfTooLate() {
             // Who never left stays, and who is too deep gets no farther than LOST or CAUGHT, which bring the same.
             if (end == 0 && (raiderRow == 0 || raiderRow > breath - seconds)) {
                 end = LOST;
-            }
-            for (int i = 0; i < LAST_ROW && end == 0; i++) {
-                second(half, BACK);
             }
         }
 
@@ -957,7 +953,10 @@ public final class OnOneBreath {
                 if (next.end == 0 && next.seconds < next.breath && level + 1 < length) {
                     explore(half, level + 1);
                 } else {
-                    next.comeBack(half);
+                    next.giveUpIfTooLate();
+                    for (int i = 0; i < LAST_ROW && next.end == 0; i++) {
+                        next.second(half, BACK);
+                    }
                     compare(half, next, level);
                 }
             }
@@ -1081,20 +1080,23 @@ public final class OnOneBreath {
         private static final int COMPARES = 2, HIGHEST = 4;
         private static final int MOST_DIGITS = 4, MOST_OPEN = 6;
 
-        private int[] signs;
+        private final int[] signs;
         private int length;
         private int place;
         private int fault;
-        private Law into;
+        /** The law that is read: another one, once this one is in force. */
+        Law draft = new Law();
+
+        LawReader(int[] tape) {
+            signs = tape;
+        }
 
         /** The FAULT; -1, if it is a TEXT. */
-        int read(int[] tape, int tapeLength, Law draft) {
-            signs = tape;
-            length = tapeLength;
+        int read(int tapeLength) {
+            length = Math.min(tapeLength, signs.length);
             place = 0;
             fault = -1;
-            into = draft;
-            into.clear();
+            draft.clear();
             readLine();
             for (int i = 0; i < length && takes(';'); i++) {
                 readLine();
@@ -1108,12 +1110,12 @@ public final class OnOneBreath {
         private void readLine() {
             readRank(0, 0);
             if (takes('?')) {
-                int skip = into.add(Law.UNLESS_SKIP, 0);
+                int skip = draft.add(Law.UNLESS_SKIP, 0);
                 readRank(0, 0);
-                into.add(Law.GIVE, 0);
-                into.skipToEndFrom(skip);
+                draft.add(Law.GIVE, 0);
+                draft.skipToEndFrom(skip);
             } else {
-                into.add(Law.GIVE, 0);
+                draft.add(Law.GIVE, 0);
             }
         }
 
@@ -1129,7 +1131,7 @@ public final class OnOneBreath {
                     return;
                 }
                 readRank(rank + 1, open);
-                into.add(Law.FIRST_JOINER + joiner, 0);
+                draft.add(Law.FIRST_JOINER + joiner, 0);
                 if (rank == COMPARES) {
                     return;
                 }
@@ -1155,10 +1157,10 @@ public final class OnOneBreath {
                 }
             } else if (takes('!')) {
                 readOperand(open);
-                into.add(Law.NO, 0);
+                draft.add(Law.NO, 0);
             } else if (takes('-')) {
                 readOperand(open);
-                into.add(Law.MINUS, 0);
+                draft.add(Law.MINUS, 0);
             }
         }
 
@@ -1168,7 +1170,7 @@ public final class OnOneBreath {
                 number = number * 10 + sign() - '0';
                 place++;
             }
-            into.add(Law.NUMBER, number);
+            draft.add(Law.NUMBER, number);
         }
 
         private void readName() {
@@ -1179,9 +1181,9 @@ public final class OnOneBreath {
                 return;
             }
             place++;
-            into.add(Law.NAME, name);
+            draft.add(Law.NAME, name);
             if (name == NEIGHBOURS) {
-                into.asksNeighbours = true;
+                draft.asksNeighbours = true;
             }
         }
 
