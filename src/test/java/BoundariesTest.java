@@ -1214,6 +1214,9 @@ public final class BoundariesTest {
         due("two, aslant", 1, half("", 44, 55).line(2));
         due("seven in a row", 7, half("", 40, 46, 41, 45, 42, 44, 43).line(2));
         due("four and three", 4, half("", 40, 46, 41, 45, 42, 48, 47).line(2));
+        due("the first between two", 3, half("", 44, 43, 45).line(2));
+        due("the last between two", 3, half("", 43, 45, 44).line(2));
+        due("the first between six", 7, half("", 44, 34, 24, 54, 64, 43, 45).line(2));
         due("seven by corners", 7, half("", 11, 33, 12, 32, 22, 43, 44).line(2));
         OnOneBreath z = half("", 40, 46, 41, 45, 42, 44, 43);
         z.mend(6, 3, 0);

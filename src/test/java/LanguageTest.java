@@ -1,3 +1,13 @@
+import com.sun.source.tree.CompilationUnitTree;
+import com.sun.source.tree.MethodInvocationTree;
+import com.sun.source.tree.MethodTree;
+import com.sun.source.tree.NewArrayTree;
+import com.sun.source.tree.NewClassTree;
+import com.sun.source.tree.Tree;
+import com.sun.source.util.JavacTask;
+import com.sun.source.util.TreePath;
+import com.sun.source.util.TreePathScanner;
+import com.sun.source.util.Trees;
 import java.lang.reflect.Constructor;
 import java.lang.reflect.Executable;
 import java.lang.reflect.Field;
@@ -8,11 +18,18 @@ import java.nio.file.Path;
 import java.util.ArrayList;
 import java.util.Arrays;
 import java.util.HashSet;
+import java.util.LinkedHashMap;
 import java.util.List;
+import java.util.Map;
 import java.util.Set;
 import java.util.TreeSet;
 import java.util.regex.Matcher;
 import java.util.regex.Pattern;
+import javax.lang.model.element.Element;
+import javax.lang.model.element.ElementKind;
+import javax.tools.JavaCompiler;
+import javax.tools.StandardJavaFileManager;
+import javax.tools.ToolProvider;
 
 /** The face of the document and those rules of LANGUAGE.md that can be seen without running the class. */
 public final class LanguageTest {
@@ -40,6 +57,8 @@ public final class LanguageTest {
         lookAtClasses();
         lookAtWords(source);
         lookAtLengths(source);
+        Calls calls = new Calls(root.resolve("src/main/java/OnOneBreath.java"));
+        calls.lookAtDepths();
         System.out.println(wrong + " faults of the language");
         if (wrong != 0) {
             System.exit(1);
@@ -173,6 +192,107 @@ public final class LanguageTest {
                     fault("more than sixty lines: " + lines[i].trim());
                 }
             }
+        }
+    }
+
+    /** Who calls whom in the class, and what is made outside constructors. */
+    private static final class Calls extends TreePathScanner<Void, Element> {
+        private static final int DEEPEST = 8;
+
+        private final Map<Element, Set<Element>> called = new LinkedHashMap<>();
+        private final Trees trees;
+
+        Calls(Path file) throws Exception {
+            JavaCompiler compiler = ToolProvider.getSystemJavaCompiler();
+            try (StandardJavaFileManager files = compiler.getStandardFileManager(null, null, null)) {
+                JavacTask task = (JavacTask) compiler.getTask(null, files, null, List.of("-proc:none"), null, files.getJavaFileObjects(file));
+                Iterable<? extends CompilationUnitTree> units = task.parse();
+                task.analyze();
+                trees = Trees.instance(task);
+                scan(units, null);
+            }
+        }
+
+        @Override
+        public Void visitMethod(MethodTree node, Element outer) {
+            Element method = trees.getElement(getCurrentPath());
+            called.putIfAbsent(method, new HashSet<>());
+            return super.visitMethod(node, method);
+        }
+
+        @Override
+        public Void visitMethodInvocation(MethodInvocationTree node, Element caller) {
+            note(node.getMethodSelect(), caller);
+            return super.visitMethodInvocation(node, caller);
+        }
+
+        @Override
+        public Void visitNewClass(NewClassTree node, Element caller) {
+            noteMade(node, caller);
+            return super.visitNewClass(node, caller);
+        }
+
+        @Override
+        public Void visitNewArray(NewArrayTree node, Element caller) {
+            noteMade(node, caller);
+            return super.visitNewArray(node, caller);
+        }
+
+        private void note(Tree callee, Element caller) {
+            if (caller != null) {
+                called.get(caller).add(trees.getElement(new TreePath(getCurrentPath(), callee)));
+            }
+        }
+
+        /** All rows are made as an object is made, so that no run of calls fills the room. */
+        private void noteMade(Tree made, Element caller) {
+            if (caller != null && caller.getKind() != ElementKind.CONSTRUCTOR) {
+                fault("made by a call: " + made + " in " + caller);
+            }
+        }
+
+        void lookAtDepths() {
+            if (called.size() < FACE.length) {
+                fault("fewer methods than the face has: " + called.size());
+            }
+            for (Element method : called.keySet()) {
+                int deep = depth(method);
+                if (deep > DEEPEST) {
+                    fault("calls " + deep + " deep: " + method);
+                }
+            }
+        }
+
+        /** Of calls that are no recursion; those that call one another count as one. */
+        private int depth(Element method) {
+            int most = 0;
+            Set<Element> group = new HashSet<>(Set.of(method));
+            for (Element other : reached(method)) {
+                if (reached(other).contains(method)) {
+                    group.add(other);
+                }
+            }
+            for (Element member : group) {
+                for (Element callee : called.getOrDefault(member, Set.of())) {
+                    if (!group.contains(callee)) {
+                        most = Math.max(most, depth(callee));
+                    }
+                }
+            }
+            return most + 1;
+        }
+
+        private Set<Element> reached(Element from) {
+            Set<Element> all = new HashSet<>();
+            List<Element> open = new ArrayList<>(List.of(from));
+            while (!open.isEmpty()) {
+                for (Element callee : called.getOrDefault(open.remove(open.size() - 1), Set.of())) {
+                    if (all.add(callee)) {
+                        open.add(callee);
+                    }
+                }
+            }
+            return all;
         }
     }
 }
