@@ -19,7 +19,6 @@ public final class OnOneBreath {
     private static final int[] LEAST = {0, 1, 0, 0, 1, 0, 0, 0, 1, 0, 0, 0, 0, 0};
     private static final int[] MOST = {8, 8, 9, 1, 60, 3, 40, 8, 8, 12, 12, 12, 12, 12};
 
-    private static final int LONGEST_TAPE = 120;
     private static final int SHELVES = 6;
     private static final int LONGEST_SEARCH = 5;
 
@@ -32,9 +31,7 @@ public final class OnOneBreath {
     private final Changes changes = new Changes();
     private final Bodies bodies = new Bodies();
     private final Shelf[] shelves = new Shelf[SHELVES];
-    private final int[] tape = new int[LONGEST_TAPE];
-    private final LawReader reader = new LawReader(tape);
-    private int tapeLength;
+    private final LawReader reader = new LawReader();
 
     public OnOneBreath() {
         for (int i = 0; i < SHELVES; i++) {
@@ -82,17 +79,11 @@ public final class OnOneBreath {
         if (letter < 0 || letter > 255) {
             return BAD;
         }
-        if (tapeLength >= LONGEST_TAPE) {
-            return FULL;
-        }
-        tape[tapeLength] = letter;
-        tapeLength++;
-        return tapeLength;
+        return reader.isFull() ? FULL : reader.add(letter);
     }
 
     public int law() {
-        int fault = reader.read(tapeLength);
-        tapeLength = 0;
+        int fault = reader.read();
         if (fault >= 0) {
             return -100 - fault;
         }
@@ -434,7 +425,7 @@ public final class OnOneBreath {
         switch (what) {
             case 0: return half.size;
             case 1: return Integer.bitCount(half.inside);
-            case 2: return tapeLength;
+            case 2: return reader.length;
             case 3: return changes.done;
             case 4: return bodies.size;
             case 5: return bodies.ran;
@@ -945,21 +936,26 @@ public final class OnOneBreath {
             if (level >= length || level >= LONGEST_SEARCH) {
                 return;
             }
-            Scene next = levels[level + 1];
             for (int move = STAYS; move <= MORE && worth < enough; move++) {
                 trial[level] = move;
-                next.goOnFrom(levels[level]);
-                next.second(half, move);
-                if (next.end == 0 && next.seconds < next.breath && level + 1 < length) {
-                    explore(half, level + 1);
-                } else {
-                    next.giveUpIfTooLate();
-                    for (int i = 0; i < LAST_ROW && next.end == 0; i++) {
-                        next.second(half, BACK);
-                    }
-                    compare(half, next, level);
-                }
+                goOn(half, level);
             }
+        }
+
+        /** Asked only for a level there is: by its move, and by all that may follow, or back. */
+        private void goOn(Half half, int level) {
+            Scene next = levels[level + 1];
+            next.goOnFrom(levels[level]);
+            next.second(half, trial[level]);
+            if (next.end == 0 && next.seconds < next.breath && level + 1 < length) {
+                explore(half, level + 1);
+                return;
+            }
+            next.giveUpIfTooLate();
+            for (int i = 0; i < LAST_ROW && next.end == 0; i++) {
+                next.second(half, BACK);
+            }
+            compare(half, next, level);
         }
 
         private void compare(Half half, Scene reached, int level) {
@@ -1069,8 +1065,9 @@ public final class OnOneBreath {
         }
     }
 
-    /** Reads a TEXT into a law and finds its FAULT. */
+    /** THE TAPE: reads its TEXT into a law, or finds its FAULT. */
     private static final class LawReader {
+        private static final int LONGEST_TAPE = 120;
         static final int NAMES = 6;
         private static final String NAME_SIGNS = "drbsnc";
         private static final int NEIGHBOURS = 5;
@@ -1080,20 +1077,26 @@ public final class OnOneBreath {
         private static final int COMPARES = 2, HIGHEST = 4;
         private static final int MOST_DIGITS = 4, MOST_OPEN = 6;
 
-        private final int[] signs;
-        private int length;
+        private final int[] tape = new int[LONGEST_TAPE];
+        int length;
         private int place;
         private int fault;
         /** The law that is read: another one, once this one is in force. */
         Law draft = new Law();
 
-        LawReader(int[] tape) {
-            signs = tape;
+        boolean isFull() {
+            return length >= LONGEST_TAPE;
         }
 
-        /** The FAULT; -1, if it is a TEXT. */
-        int read(int tapeLength) {
-            length = Math.min(tapeLength, signs.length);
+        /** Asked only while it is not FULL. */
+        int add(int letter) {
+            tape[length] = letter;
+            length++;
+            return length;
+        }
+
+        /** The FAULT; -1, if it is a TEXT. THE TAPE is empty then. */
+        int read() {
             place = 0;
             fault = -1;
             draft.clear();
@@ -1104,6 +1107,7 @@ public final class OnOneBreath {
             if (place < length) {
                 fail();
             }
+            length = 0;
             return fault;
         }
 
@@ -1193,7 +1197,7 @@ public final class OnOneBreath {
 
         /** -1 behind the end, and behind a fault, where nothing more is taken. */
         private int sign() {
-            return fault < 0 && place >= 0 && place < length ? signs[place] : -1;
+            return fault < 0 && place >= 0 && place < length ? tape[place] : -1;
         }
 
         private boolean takes(char wanted) {

@@ -1,4 +1,6 @@
 import com.sun.source.tree.CompilationUnitTree;
+import com.sun.source.tree.ExpressionTree;
+import com.sun.source.tree.IdentifierTree;
 import com.sun.source.tree.MethodInvocationTree;
 import com.sun.source.tree.MethodTree;
 import com.sun.source.tree.NewArrayTree;
@@ -59,6 +61,7 @@ public final class LanguageTest {
         lookAtLengths(source);
         Calls calls = new Calls(root.resolve("src/main/java/OnOneBreath.java"));
         calls.lookAtDepths();
+        calls.lookAtRecursion();
         System.out.println(wrong + " faults of the language");
         if (wrong != 0) {
             System.exit(1);
@@ -229,6 +232,9 @@ public final class LanguageTest {
         @Override
         public Void visitNewClass(NewClassTree node, Element caller) {
             noteMade(node, caller);
+            for (ExpressionTree argument : node.getArguments()) {
+                noteHandedOut(argument);
+            }
             return super.visitNewClass(node, caller);
         }
 
@@ -248,6 +254,35 @@ public final class LanguageTest {
         private void noteMade(Tree made, Element caller) {
             if (caller != null && caller.getKind() != ElementKind.CONSTRUCTOR) {
                 fault("made by a call: " + made + " in " + caller);
+            }
+        }
+
+        /** Objects are made as their owner is made: it must not give them a part of itself (rule 12). */
+        private void noteHandedOut(ExpressionTree argument) {
+            TreePath path = new TreePath(getCurrentPath(), argument);
+            new TreePathScanner<Void, Void>() {
+                @Override
+                public Void visitIdentifier(IdentifierTree node, Void none) {
+                    Element named = trees.getElement(getCurrentPath());
+                    boolean field = named != null && named.getKind() == ElementKind.FIELD;
+                    if (field && !named.getModifiers().contains(javax.lang.model.element.Modifier.STATIC)) {
+                        fault("handed out by what is being made: " + node);
+                    }
+                    return super.visitIdentifier(node, none);
+                }
+            }.scan(path, null);
+        }
+
+        /** Rule 8: one that calls itself alone is static; others call one another. */
+        void lookAtRecursion() {
+            for (Element method : called.keySet()) {
+                boolean alone = called.get(method).contains(method);
+                for (Element other : reached(method)) {
+                    alone &= other == method || !reached(other).contains(method);
+                }
+                if (alone && !method.getModifiers().contains(javax.lang.model.element.Modifier.STATIC)) {
+                    fault("calls itself alone and is not static: " + method);
+                }
             }
         }
 
